@@ -6,8 +6,6 @@ import java.util.List;
 // found by walking, and every choice of inner states is tried.
 public final class ReferenceTest {
     private static final int CALLS = 512;
-    private static int wrong = 0;
-    private static int checked = 0;
     private static long seed = 20240229L;
 
     // A fixed sequence, so that every run of this test is the same.
@@ -214,13 +212,7 @@ public final class ReferenceTest {
     }
 
     private static void due(String call, int got, int want) {
-        checked++;
-        if (got != want) {
-            wrong++;
-            if (wrong <= 20) {
-                System.out.println(call + " answered " + got + ", due is " + want);
-            }
-        }
+        Checks.due(call, got, want);
     }
 
     private static void setSomething(String run, ParsimonyPhylogeny x, Reference r) {
@@ -298,9 +290,6 @@ public final class ReferenceTest {
                 everyTree(taxa, sites);
             }
         }
-        System.out.println(checked + " answers checked, " + wrong + " wrong");
-        if (wrong != 0) {
-            System.exit(1);
-        }
+        Checks.end();
     }
 }
