@@ -195,6 +195,24 @@ public final class PromisesTest {
         due("asking: weight kept", x.weight(1, 1), 3);
     }
 
+    // README.md shows these calls and answers.
+    private static void readmeExample() {
+        ParsimonyPhylogeny x = new ParsimonyPhylogeny(4, 2);
+        x.states(0, 0, 1);
+        x.states(1, 0, 1);
+        x.states(2, 0, 2);
+        x.states(3, 0, 6);
+        due("README: weight", x.weight(0, 5), 1);
+        due("README: trees", x.trees(), 3);
+        due("README: score", x.score(0), 10);
+        due("README: least", x.least(), 5);
+        due("README: bestTree", x.bestTree(), 2);
+        due("README: within", x.within(4), 1);
+        due("README: support", x.support(3), 1);
+        due("README: siteLeast", x.siteLeast(0), 5);
+        due("README: changes", x.changes(0), 1);
+    }
+
     public static void main(String[] args) {
         promise1NewObject();
         promise2States();
@@ -208,6 +226,7 @@ public final class PromisesTest {
         promise10SiteLeast();
         promise11Changes();
         askingChangesNothing();
+        readmeExample();
         Checks.end();
     }
 }

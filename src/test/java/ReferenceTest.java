@@ -72,17 +72,38 @@ public final class ReferenceTest {
             return seen;
         }
 
+        int side(int[] edge) {
+            int side = 0;
+            for (int node : reachable(edge[0], edge)) {
+                side |= node < n ? 1 << node : 0;
+            }
+            return side;
+        }
+
         boolean separates(int mask) {
             for (int[] edge : edges) {
-                int side = 0;
-                for (int node : reachable(edge[0], edge)) {
-                    side |= node < n ? 1 << node : 0;
-                }
+                int side = side(edge);
                 if (side == mask || side == ((1 << n) - 1 ^ mask)) {
                     return true;
                 }
             }
             return false;
+        }
+
+        // The two sides of each edge between inner nodes have a state each at
+        // a site of their own, so that no other tree is as good.
+        ParsimonyPhylogeny onlyBest() {
+            ParsimonyPhylogeny x = new ParsimonyPhylogeny(n, Math.max(1, n - 3));
+            int site = 0;
+            for (int[] edge : edges) {
+                if (edge[0] >= n && edge[1] >= n) {
+                    for (int taxon = 0; taxon < n; taxon++) {
+                        x.states(taxon, site, (side(edge) >> taxon & 1) == 1 ? 1 : 2);
+                    }
+                    site++;
+                }
+            }
+            return x;
         }
 
         int changes(int[] sets) {
@@ -282,9 +303,26 @@ public final class ReferenceTest {
         }
     }
 
+    private static void everyTreeAlone(int taxa) {
+        List<Graph> graphs = new Reference(taxa, 1).graphs;
+        for (int code = 0; code < graphs.size(); code++) {
+            Graph graph = graphs.get(code);
+            ParsimonyPhylogeny x = graph.onlyBest();
+            String run = "tree " + code + " of " + taxa + " taxa alone: ";
+            due(run + "bestTree()", x.bestTree(), code);
+            due(run + "within(0)", x.within(0), 1);
+            due(run + "least()", x.least(), taxa - 3);
+            due(run + "score", x.score(code), taxa - 3);
+            for (int mask = 1; mask < (1 << taxa) - 1; mask++) {
+                due(run + "support(" + mask + ")", x.support(mask), graph.separates(mask) ? 1 : 0);
+            }
+        }
+    }
+
     public static void main(String[] args) {
         int number = 0;
         for (int taxa = 3; taxa <= 6; taxa++) {
+            everyTreeAlone(taxa);
             for (int sites = 1; sites <= 8; sites++) {
                 longRun(++number, taxa, sites);
                 everyTree(taxa, sites);
